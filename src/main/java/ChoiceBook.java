@@ -210,11 +210,10 @@ public final class ChoiceBook {
         if (!here.begun) {
             return NOT;
         }
-        int p = State.partOf(here.state);
-        if (!here.book.hasChoice(p, k)) {
+        if (!here.book.hasChoice(State.partOf(here.state), k)) {
             return UNKNOWN;
         }
-        if (State.isOver(here.state) || !here.book.isOpen(p, k, State.thingsOf(here.state))) {
+        if (!here.book.isOpen(here.state, k)) {
             return NOT;
         }
         here.turnTo(here.book.wayOut(here.state, k));
@@ -773,24 +772,24 @@ public final class ChoiceBook {
             }
         }
 
-        boolean isOpen(int p, int i, int things) {
-            if (!hasChoice(p, i)) {
+        /** Whether one who is in a STATE may take a CHOICE of the PART; none when it is over. */
+        boolean isOpen(int state, int i) {
+            int p = State.partOf(state);
+            if (State.isOver(state) || !hasChoice(p, i)) {
                 return false;
             }
+            int things = State.thingsOf(state);
             int with = choiceWith[p * CHOICE_LIMIT + i];
             int without = choiceWithout[p * CHOICE_LIMIT + i];
             return (with == NONE || (things >> with & 1) == 1)
                 && (without == NONE || (things >> without & 1) == 0);
         }
 
-        /** The SET of CHOICES that are OPEN; none when it is over. */
         int openChoices(int state) {
             int set = 0;
-            if (!State.isOver(state)) {
-                for (int i = 0; i < CHOICE_LIMIT; i++) {
-                    if (isOpen(State.partOf(state), i, State.thingsOf(state))) {
-                        set |= 1 << i;
-                    }
+            for (int i = 0; i < CHOICE_LIMIT; i++) {
+                if (isOpen(state, i)) {
+                    set |= 1 << i;
                 }
             }
             return set;
@@ -806,16 +805,13 @@ public final class ChoiceBook {
         /** Where way k leads out of a STATE (a CHOICE; at a roll 0 and 1 for P and Q); NONE if it is shut. */
         int wayOut(int state, int k) {
             int p = State.partOf(state);
-            if (State.isOver(state) || !hasPart(p)) {
+            if (isOpen(state, k)) {
+                return choiceTo[p * CHOICE_LIMIT + k];
+            }
+            if (State.isOver(state) || !isRoll(p) || k < 0 || k > 1) {
                 return NONE;
             }
-            if (end[p] == BY_ROLL) {
-                if (k == 0) {
-                    return rollHigh[p];
-                }
-                return k == 1 ? rollLow[p] : NONE;
-            }
-            return isOpen(p, k, State.thingsOf(state)) ? choiceTo[p * CHOICE_LIMIT + k] : NONE;
+            return k == 0 ? rollHigh[p] : rollLow[p];
         }
 
         boolean canGo(int state, int to) {
@@ -1057,6 +1053,7 @@ public final class ChoiceBook {
             pass("part".length());
             readEffects(p);
             readEnd(p);
+            readChoices(p);
             closeClause();
         }
 
@@ -1091,6 +1088,7 @@ public final class ChoiceBook {
             return isWord("heal") ? HEAL : NONE;
         }
 
+        /** An end other than CHOICES. */
         private void readEnd(int p) {
             if (faultKind != NO_FAULT) {
                 return;
@@ -1107,14 +1105,12 @@ public final class ChoiceBook {
                 int high = readTarget();
                 int low = readTarget();
                 draft.endByRoll(p, need, high, low);
-            } else {
-                readChoices(p);
             }
         }
 
         private void readChoices(int p) {
             for (int i = 0; i <= CHOICE_LIMIT && faultKind == NO_FAULT; i++) {
-                if (!isWord("go")) {
+                if (draft.end[p] != BY_CHOICES || !isWord("go")) {
                     return;
                 }
                 if (i == CHOICE_LIMIT) {
@@ -1363,7 +1359,10 @@ public final class ChoiceBook {
 
         private void forget() {
             for (int i = 0; i < size; i++) {
-                placeBySlot[slotOf(states[i])] = 0;
+                int slot = slotOf(states[i]);
+                if (slot >= 0 && slot < placeBySlot.length) {
+                    placeBySlot[slot] = 0;
+                }
             }
             int slots = book.partCount * SLOTS_OF_PART;
             if (placeBySlot.length < slots) {
@@ -1406,8 +1405,11 @@ public final class ChoiceBook {
         private int meet(int state) {
             int place = find(state);
             int slot = slotOf(state);
-            if (place != NONE || State.fateOf(state) == LOST || slot < 0 || slot >= placeBySlot.length) {
+            if (place != NONE || State.fateOf(state) == LOST) {
                 return place;
+            }
+            if (size >= STATE_LIMIT || slot < 0 || slot >= placeBySlot.length) {
+                return NONE;
             }
             if (size >= states.length) {
                 int room = Math.min(STATE_LIMIT, 2 * states.length);
