@@ -39,6 +39,16 @@ public final class FaultTest {
         faulty("healthy 5;", 1, 0);
         faulty("parts;", 1, 0);
         faulty("Part;", 1, 0);
+        faulty("cart;", 1, 0);
+        faulty("parz;", 1, 0);
+        faulty("partz;", 1, 0);
+        faulty("parta;", 1, 0);
+        faulty("dealth 5;", 1, 0);
+        faulty("part bake 1;", 1, 5);
+        faulty("part pie;", 1, 5);
+        faulty("part toll 2 0 0;", 1, 5);
+        faulty("part no 0;", 1, 5);
+        faulty("part go 0 pith 1;", 1, 10);
         faulty("paRt;", 1, 0);
         faulty("partX;", 1, 4);
         faulty("part\t;", 1, 4);

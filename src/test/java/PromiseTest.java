@@ -273,6 +273,11 @@ public final class PromiseTest {
         due("others are as they were", x.choice(2, 0, 0), 1);
         due("the last one", x.unlink(0, 2), 2);
         due("unlink", x.unlink(0, 0), 1);
+        ChoiceBook last = Check.told("part;".repeat(23) + "part go 0 go 1 go 2 go 3 go 4 go 5;");
+        for (int left = 5; left >= 0; left--) {
+            due("the last PART of all", last.unlink(23, 0), left);
+            due("the last PART of all", last.choice(23, 0, 0), left == 0 ? UNKNOWN : 6 - left);
+        }
         x.begin();
         due("going on", x.now(4), 0);
         due("unlink", x.unlink(0, 0), 0);
@@ -299,6 +304,9 @@ public final class PromiseTest {
         due("LOST by die is none", Check.told("part go 1;part die;").count(5), 1);
         due("unlike THINGS", Check.told("part go 1 go 2;part take 0 go 0;part take 1 go 0;").count(5), 4 + 2 + 2);
         due("WON and STUCK are some", Check.told("part go 1 go 2;part win;part;").count(5), 3);
+        String all = "health 9;part take 0 take 1 take 2 take 3 go 1;part take 4 take 5 take 6 take 7 go 1;";
+        due("the last PART with all THINGS and HEALTH 9", Check.told(all).count(5), 2);
+        due("all THINGS", Check.told(all).things(0), 255);
         due("taken and dropped at once", Check.told("part take 1 drop 1 go 0;").count(5), 1);
     }
 
@@ -488,6 +496,27 @@ public final class PromiseTest {
         due("COME TO is from the BEGINNING", z.count(5), 1);
         due("COME TO is from the BEGINNING", z.things(0), 0);
         due("no win", z.parts(1), 0);
+        strandedReader();
+    }
+
+    /** Where nobody comes to any more one goes on all the same, with THINGS to be had. */
+    private static void strandedReader() {
+        String text = "part go 1;part take 1 go 4 go 2;part take 0 go 3 with 0;part win;part;";
+        ChoiceBook x = Check.told(text);
+        x.begin();
+        x.choose(0);
+        x.unlink(0, 0);
+        due("traps first", x.parts(2), 1);
+        due("fewest behind traps", x.fewest(), 2);
+        due("traps again", x.parts(2), 1);
+        due("holes", x.parts(3), 1);
+        due("odds", x.odds(2), 1000000);
+        ChoiceBook y = Check.told(text);
+        y.begin();
+        y.choose(0);
+        y.unlink(0, 0);
+        due("advice", y.advice(2), 1);
+        due("surely", y.surely(), 2);
     }
 
     private static void advice() {
