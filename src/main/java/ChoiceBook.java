@@ -284,20 +284,7 @@ public final class ChoiceBook {
         StateGraph graph = freshComeTo();
         graph.include(here.state);
         graph.runTurns(t - 1);
-        int open = here.book.openChoices(here.state);
-        int best = NONE;
-        int bestOdds = -1;
-        for (int k = 0; k < CHOICE_LIMIT; k++) {
-            if ((open >> k & 1) == 1) {
-                int next = here.book.goOn(here.state, here.book.wayOut(here.state, k), NONE);
-                int odds = graph.oddsOf(graph.find(next));
-                if (odds > bestOdds) {
-                    bestOdds = odds;
-                    best = k;
-                }
-            }
-        }
-        return best;
+        return bestChoice(graph);
     }
 
     public int fewest() {
@@ -531,6 +518,23 @@ public final class ChoiceBook {
         return comeTo;
     }
 
+    /** The CHOICE that is OPEN now and leads to the greatest ODDS of the graph; NONE. */
+    private int bestChoice(StateGraph graph) {
+        int best = NONE;
+        int bestOdds = -1;
+        for (int k = 0; k < CHOICE_LIMIT; k++) {
+            if (here.book.isOpen(here.state, k)) {
+                int next = here.book.goOn(here.state, here.book.wayOut(here.state, k), NONE);
+                int odds = graph.oddsOf(graph.find(next));
+                if (odds > bestOdds) {
+                    bestOdds = odds;
+                    best = k;
+                }
+            }
+        }
+        return best;
+    }
+
     private int mustParts(StateGraph graph) {
         if (!graph.begunWon) {
             return 0;
@@ -590,20 +594,31 @@ public final class ChoiceBook {
 
     /** The STATE in which one BLIND reader ends. */
     private int blindEnd() {
-        Book book = here.book;
-        int state = book.beginning(NONE);
-        for (int turn = 0; turn < TURN_LIMIT && book.standing(state) == GOING_ON; turn++) {
-            int p = State.partOf(state);
-            int to;
-            if (book.isRoll(p)) {
-                to = book.rollTarget(p, here.draw(DIE_FACES) + 1);
-            } else {
-                int open = book.openChoices(state);
-                to = book.wayOut(state, nthOf(open, here.draw(Integer.bitCount(open))));
+        int state = here.book.beginning(NONE);
+        for (int turn = 0; turn < TURN_LIMIT; turn++) {
+            int to = blindWay(state);
+            if (to == NONE) {
+                return state;
             }
-            state = book.goOn(state, to, NONE);
+            state = here.book.goOn(state, to, NONE);
         }
         return state;
+    }
+
+    /** The PART that a BLIND reader goes to; NONE if there is nowhere to go. */
+    private int blindWay(int state) {
+        Book book = here.book;
+        if (State.isOver(state)) {
+            return NONE;
+        }
+        if (book.isRoll(State.partOf(state))) {
+            return book.rollTarget(State.partOf(state), here.draw(DIE_FACES) + 1);
+        }
+        int open = book.openChoices(state);
+        if (open == 0) {
+            return NONE;
+        }
+        return book.wayOut(state, nthOf(open, here.draw(Integer.bitCount(open))));
     }
 
     /** The n-th CHOICE (0 on) of a SET of CHOICES. */
@@ -787,7 +802,8 @@ public final class ChoiceBook {
 
         int openChoices(int state) {
             int set = 0;
-            for (int i = 0; i < CHOICE_LIMIT; i++) {
+            int p = State.partOf(state);
+            for (int i = 0; hasChoice(p, i) && i < CHOICE_LIMIT; i++) {
                 if (isOpen(state, i)) {
                     set |= 1 << i;
                 }
@@ -800,6 +816,14 @@ public final class ChoiceBook {
                 return NONE;
             }
             return rolled >= rollNeed[p] ? rollHigh[p] : rollLow[p];
+        }
+
+        /** How many ways out a PART has, OPEN or not. */
+        int waysFrom(int p) {
+            if (!hasPart(p)) {
+                return 0;
+            }
+            return end[p] == BY_ROLL ? 2 : Math.min(CHOICE_LIMIT, choiceCount[p]);
         }
 
         /** Where way k leads out of a STATE (a CHOICE; at a roll 0 and 1 for P and Q); NONE if it is shut. */
@@ -818,7 +842,8 @@ public final class ChoiceBook {
             if (!hasPart(to)) {
                 return false;
             }
-            for (int k = 0; k < CHOICE_LIMIT; k++) {
+            int all = waysFrom(State.partOf(state));
+            for (int k = 0; k < all; k++) {
                 if (wayOut(state, k) == to) {
                     return true;
                 }
@@ -1389,7 +1414,8 @@ public final class ChoiceBook {
                     return true;
                 }
                 firstWay[i] = wayCount;
-                for (int k = 0; k < CHOICE_LIMIT; k++) {
+                int all = book.waysFrom(State.partOf(state));
+                for (int k = 0; k < all; k++) {
                     int to = book.wayOut(state, k);
                     if (to != NONE && to != noPart) {
                         arrivedParts |= 1 << to;
