@@ -663,6 +663,8 @@ public final class PromiseTest {
         due("not needed", x.things(1), 0);
         due("never come to", Check.told("part go 0;part take 1;").things(0), 0);
         due("dropped at once", Check.told("part take 1 drop 1 take 2 go 0;").things(0), 4);
+        // A STATE is PART, THINGS, HEALTH, or LOST: one that is LOST has no THINGS.
+        due("not where one is LOST", Check.told("part go 1 go 2;part take 1 die;part take 2 hurt 9;").things(0), 0);
         due("all", Check.told("part take 0 take 1 take 2 take 3 go 1;part take 4 take 5 take 6 take 7 go 0;").things(0), 255);
         String key = "part go 1 go 2;part take 6 go 0;part go 3 with 6;part win;";
         due("needed", Check.told(key).things(1), 64);
