@@ -140,6 +140,15 @@ public final class EdgeBookTest {
         fault("part roll 2 0 0", -11, 15);
         fault("health 5", -11, 8);
         fault(" ".repeat(596) + "part", -11, 600);
+        fault(" ".repeat(591) + "part go 0", -11, 600);
+        // What an earlier text had at that place is none of this one.
+        ChoiceBook x = Check.feed(new ChoiceBook(), "part go 1234;");
+        x.book();
+        Doc.due("a shorter text", Check.feed(x, "part go 1").book(), -11);
+        Doc.due("its end", x.fault(), 9);
+        Check.feed(x, "part winwinwin;").book();
+        Doc.due("a shorter text", Check.feed(x, "part win").book(), -11);
+        Doc.due("its end", x.fault(), 8);
         // Words and NUMBERS that have a FAULT of two kinds at one byte.
         fault("part 100;", -11, 5);
         fault("part;".repeat(23) + "part part;", -11, 120);

@@ -305,6 +305,7 @@ public final class EdgeReadTest {
         Doc.due("t 1: the least of like ones, not the shut one", x.advice(1), 3);
         Doc.due("t 2: 2 is like it, and less", x.advice(2), 2);
         Doc.due("t 60", x.advice(60), 2);
+        Doc.due("a lesser one behind it", begun("part go 1 go 2;part win;part die;").advice(60), 0);
         Doc.due("all 0: the least that is OPEN", begun("part go 0 with 0 go 0 go 0;").advice(60), 1);
         ChoiceBook far = line(20);
         far.link(0, 22, NONE, NONE);

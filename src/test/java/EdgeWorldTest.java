@@ -257,5 +257,11 @@ public final class EdgeWorldTest {
         x.log(0);
         Check.feed(x, "part;").book();
         Doc.due("another book empties it", x.judge(), NONE);
+        // IMAGES do not keep THE LOG, so it may have PARTS that are none any more.
+        x.keep(0);
+        Check.feed(x, "part go 1;part;").book();
+        Doc.due("a way", judged(x, 0, 1), NONE);
+        x.goBack(0);
+        Doc.due("one cannot go to what is no PART", x.judge(), 1);
     }
 }
