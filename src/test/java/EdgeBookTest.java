@@ -366,6 +366,7 @@ public final class EdgeBookTest {
         Doc.all("a fifth, a 25th", UNKNOWN, last.effect(23, 4, 0), last.effect(24, 0, 0));
         Doc.all("no such EFFECT", UNKNOWN, x.effect(0, -1, 0), x.effect(0, 4, 0), x.effect(1, 1, 0), x.effect(2, 0, 0),
             x.effect(0, LOW, 0), x.effect(0, HIGH, 0));
+        Doc.all("less than 4, more than it has", UNKNOWN, x.effect(1, 2, 0), x.effect(1, 3, 0), x.effect(2, 1, 0), x.effect(2, 3, 0));
         Doc.all("no such PART", UNKNOWN, x.effect(-1, 0, 0), x.effect(3, 0, 0), x.effect(LOW, 0, 0), x.effect(HIGH, 0, 0));
         Doc.all("what too small or too large", OUTSIDE, x.effect(0, 0, -1), x.effect(0, 3, 2), x.effect(1, 0, LOW), x.effect(1, 0, HIGH));
         Doc.all("UNKNOWN ahead of OUTSIDE", UNKNOWN, x.effect(0, 4, 2), x.effect(3, 0, -1));
@@ -390,6 +391,7 @@ public final class EdgeBookTest {
         Doc.promise(7, "UNKNOWN, OUTSIDE.");
         Doc.all("a seventh, a 25th", UNKNOWN, last.choice(23, 6, 0), last.choice(24, 0, 0));
         Doc.all("no such CHOICE", UNKNOWN, x.choice(0, -1, 0), x.choice(0, 4, 0), x.choice(0, LOW, 0), x.choice(0, HIGH, 0));
+        Doc.all("less than 6, more than it has", UNKNOWN, x.choice(0, 5, 0), x.choice(1, 1, 0), x.choice(2, 5, 0));
         Doc.all("a roll, a win have none", UNKNOWN, x.choice(1, 0, 0), x.choice(2, 0, 0));
         Doc.all("no such PART", UNKNOWN, x.choice(-1, 0, 0), x.choice(3, 0, 0), x.choice(LOW, 0, 0), x.choice(HIGH, 0, 0));
         Doc.all("what too small or too large", OUTSIDE, x.choice(0, 0, -1), x.choice(0, 3, 3), x.choice(0, 0, LOW), x.choice(0, 0, HIGH));
@@ -449,6 +451,7 @@ public final class EdgeBookTest {
         Doc.all("none left", UNKNOWN, x.unlink(0, 0), x.unlink(0, -1));
         x.link(0, 1, NONE, NONE);
         Doc.all("no such CHOICE", UNKNOWN, x.unlink(0, 1), x.unlink(0, -1), x.unlink(0, LOW), x.unlink(0, HIGH), x.unlink(5, 0));
+        Doc.all("less than 6, more than it has", UNKNOWN, x.unlink(0, 2), x.unlink(0, 5), x.unlink(5, 1));
         Doc.all("no such PART", UNKNOWN, x.unlink(-1, 0), x.unlink(6, 0), x.unlink(LOW, 0), x.unlink(HIGH, 0));
         Doc.due("one still", x.count(1), 1);
     }
@@ -464,6 +467,12 @@ public final class EdgeBookTest {
         Doc.due("by THINGS and HEALTH", Check.told("part go 1 without 0;part take 0 hurt 1 go 0;").count(5), 3);
         Doc.due("healing ends at 9", Check.told("part heal 1 go 0;").count(5), 4);
         Doc.due("a PART that nobody comes to", Check.told("part;part;").count(5), 1);
+        String all = "health 9;part take 0 take 1 take 2 take 3 go 1;part take 4 take 5 take 6 take 7 go 1;";
+        Doc.due("the last PART, all THINGS, HEALTH 9", Check.told(all).count(5), 2);
+        ChoiceBook least = Check.told("health 1;part go 0;");
+        Doc.due("PART 0, no THINGS, HEALTH 1", least.count(5), 1);
+        least.unlink(0, 0);
+        Doc.due("PART 0, no THINGS, HEALTH 1, asked again", least.count(5), 1);
         Doc.promise(10, "OUTSIDE.");
         ChoiceBook x = new ChoiceBook();
         Doc.all("what too small or too large", OUTSIDE, x.count(-1), x.count(6), x.count(LOW), x.count(HIGH));
@@ -473,5 +482,9 @@ public final class EdgeBookTest {
         ChoiceBook most = Check.told(("part" + "go0".repeat(6).replaceFirst("go", " go") + ";").repeat(24));
         Doc.due("PARTS", most.count(0), 24);
         Doc.due("CHOICES", most.count(1), 144);
+        Doc.due("a shorter book", Check.feed(most, "part go 0;part;").book(), 2);
+        Doc.due("CHOICES of it alone", most.count(1), 1);
+        Doc.due("no PARTS", most.book(), 0);
+        Doc.due("no CHOICES", most.count(1), 0);
     }
 }

@@ -49,6 +49,10 @@ public final class EdgePagesTest {
         ChoiceBook ends = Check.told("part go 23;" + "part;".repeat(23));
         Doc.due("23 apart, by 23", ends.near(23), 0);
         Doc.due("23 apart, by 24", ends.near(24), 1);
+        ChoiceBook shorter = Check.told("part go 1;part go 2;part go 0 go 1;part go 0 go 1 go 2;");
+        Doc.due("all linked", shorter.near(24), 6);
+        Check.feed(shorter, "part;part;part;").book();
+        Doc.due("a shorter book", shorter.near(24), 0);
     }
 
     private static long next(long seed) {
@@ -320,7 +324,8 @@ public final class EdgePagesTest {
         int flips = x.flips(10);
         Doc.due("there, back, there, one back", flips, 3 * (x.page(23, 10) - x.page(0, 10)) + 1);
         x.keep(0);
-        x.book();
+        Check.feed(x, "part go 0;".repeat(24)).book();
+        x.begin();
         x.goBack(0);
         for (int i = 0; i < 4; i++) {
             Doc.due("EFFECT " + i, x.effect(23, i, 0), i);

@@ -179,6 +179,7 @@ public final class EdgeReadTest {
         Doc.promise(12, "UNKNOWN (the PART where one is has no CHOICE k), NOT: it is not OPEN, or it is over.");
         x.begin();
         Doc.all("no CHOICE k", UNKNOWN, x.choose(2), x.choose(-1), x.choose(6), x.choose(LOW), x.choose(HIGH));
+        Doc.all("less than 6, more than it has", UNKNOWN, x.choose(3), x.choose(5));
         Doc.due("not OPEN", x.choose(1), NOT);
         Doc.due("no TURN", x.now(3), 0);
         x.unlink(0, 1);

@@ -45,7 +45,17 @@ public final class EdgeWorldTest {
         for (int i = 0; i < 6; i++) {
             six.append("part take").append(i).append(" go0;");
         }
-        Doc.due("6 THINGS: 64 at the hub, 32 at each of 6", Check.told(six.toString()).count(5), 64 + 6 * 32);
+        ChoiceBook hub = Check.told(six.toString());
+        Doc.due("6 THINGS: 64 at the hub, 32 at each of 6", hub.count(5), 64 + 6 * 32);
+        hub.begin();
+        Doc.due("no win", hub.fewest(), NONE);
+        Doc.due("no win", hub.odds(60), 0);
+        Doc.due("traps all", hub.parts(2), 127);
+        Doc.due("no holes", hub.parts(3), 0);
+        Doc.due("6 THINGS", hub.things(0), 63);
+        hub.unlink(0, 5);
+        Doc.due("5 THINGS: 32 at the hub, 16 at each of 5", hub.count(5), 32 + 5 * 16);
+        Doc.due("PART 6 no more", hub.parts(2), 63);
         String all = "health 9;part go1go2go3go4go5go6;part take0go0;part take1go0;part take2go0;part take3go0;part take4go0;"
             + "part go7go8go9go10go11go0;part take5go0;part take6go0;part take7go0;part hurt1go0;"
             + "part roll2 12 13;part win;part die;";
@@ -86,6 +96,9 @@ public final class EdgeWorldTest {
         Doc.due("by luck one may get away", Check.told("part roll 6 1 0;part win;").parts(2), 0);
         Doc.due("some STATE of it alone", Check.told("part go 1 go 2;part take 0 go 2;part go 3 without 0;part win;").parts(2), 6);
         Doc.due("no win at all", Check.told("part go 1;part go 0;").parts(2), 3);
+        // PART 1 is WON with HEALTH 9 and no THINGS, LOST with HEALTH 1 and THING 0.
+        Doc.due("LOST is like no other STATE",
+            Check.told("health 9;part go 1 go 2;part hurt 8 heal 9 win;part take 0 hurt 8 go 1;").parts(2), 4);
         Doc.due("nobody comes to it", Check.told("part go 2;part;part win;").parts(2), 0);
     }
 
